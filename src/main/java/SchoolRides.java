@@ -20,8 +20,8 @@ public final class SchoolRides {
     private static final int FAR = 0;
     private static final int SAFE = 1;
     private static final int MINUTES = 2;
-    /** Stands for "no way leads there": above every sum of metres or minutes, and a few of it still fit an int. */
-    private static final int NO_WAY = 1 << 28;
+    /** Stands for a sum that there is not: above every sum of metres, minutes or prices; seven of it fit an int. */
+    private static final int NO_SUM = 1 << 28;
 
     private final Tape tape;
     private final Reader reader;
@@ -164,7 +164,7 @@ public final class SchoolRides {
             return NONE;
         }
         int sum = view.sumOf(what, a, b);
-        return sum >= NO_WAY ? NOT_SO : sum;
+        return sum >= NO_SUM ? NOT_SO : sum;
     }
 
     public int row(int a, int b, int what, int day, int n, int i) {
@@ -215,7 +215,7 @@ public final class SchoolRides {
             return NONE;
         }
         int sum = plans[school].minutes[set];
-        return sum >= NO_WAY ? NOT_SO : sum;
+        return sum >= NO_SUM ? NOT_SO : sum;
     }
 
     public int routeStop(int school, int set, int day, int n, int i) {
@@ -229,7 +229,7 @@ public final class SchoolRides {
         if (!canRoute(school, set, day, n)) {
             return NONE;
         }
-        if (plans[school].minutes[set] >= NO_WAY) {
+        if (plans[school].minutes[set] >= NO_SUM) {
             return NOT_SO;
         }
         return plans[school].isGood[set] ? 1 : 0;
@@ -311,7 +311,7 @@ public final class SchoolRides {
         }
         tender.solve(k, without);
         int sum = tender.sums[(1 << k) - 1];
-        return sum >= NO_WAY ? NOT_SO : sum;
+        return sum >= NO_SUM ? NOT_SO : sum;
     }
 
     public int awarded(int k, int without, int route) {
@@ -373,7 +373,7 @@ public final class SchoolRides {
             return NONE;
         }
         snow.spread(a);
-        return snow.times[b] >= NO_WAY ? NOT_SO : snow.times[b];
+        return snow.times[b] >= NO_SUM ? NOT_SO : snow.times[b];
     }
 
     public int soonest() {
@@ -503,6 +503,7 @@ public final class SchoolRides {
         if (!look(day, n) || !within(school, view.text.schools)) {
             return false;
         }
+        view.judgeAll();
         preparePlan(school);
         return true;
     }
@@ -511,17 +512,17 @@ public final class SchoolRides {
         return canPlan(school, day, n) && set != 0 && within(set, 1 << view.text.stops);
     }
 
+    /** The view's children must have been judged. */
     private void preparePlan(int school) {
-        if (plans[school].stamp == view.stamp) {
-            return;
+        if (plans[school].stamp != view.stamp) {
+            plans[school].make(view, school);
         }
-        view.judgeAll();
-        plans[school].make(view, school);
     }
 
     /** Brings the routes of all plans of the view into the fleet; false if some school has no plan. */
     private boolean gatherFleet() {
         boolean all = true;
+        view.judgeAll();
         for (int school = 0; school < view.text.schools; school++) {
             preparePlan(school);
             all = all && plans[school].hasPlan();
@@ -1430,10 +1431,10 @@ public final class SchoolRides {
             }
         }
 
-        /** FAR, SAFE or MINUTES of two places; NO_WAY without. */
+        /** FAR, SAFE or MINUTES of two places; NO_SUM without. */
         int sumOf(int what, int a, int b) {
             if (!within(a, text.places) || !within(b, text.places)) {
-                return NO_WAY;
+                return NO_SUM;
             }
             if ((summed[what] >> a & 1) == 0) {
                 findSums(what, a);
@@ -1441,46 +1442,40 @@ public final class SchoolRides {
             return sums[(what * PLACES + a) * PLACES + b];
         }
 
+        /** Lowers the sums along all ways until none can be lowered: at most once for each place. */
         private void findSums(int what, int from) {
             int base = (what * PLACES + from) * PLACES;
-            Arrays.fill(sums, base, base + PLACES, NO_WAY);
+            Arrays.fill(sums, base, base + PLACES, NO_SUM);
             sums[base + from] = 0;
-            boolean altered = true;
-            for (int round = 0; round < PLACES && altered; round++) {
-                altered = false;
+            summed[what] |= 1 << from;
+            int usable = usableWays(what);
+            int[] lengths = what == MINUTES ? text.minutes : text.metres;
+            boolean lowered = true;
+            for (int round = 0; round < PLACES && lowered; round++) {
+                lowered = false;
                 for (int way = 0; way < text.ways; way++) {
-                    if (isUsable(what, way)) {
-                        altered |= lower(what, way, base + text.wayStarts[way], base + text.wayEnds[way]);
+                    int one = base + text.wayStarts[way];
+                    int other = base + text.wayEnds[way];
+                    if ((usable >> way & 1) == 0) {
+                        continue;
+                    }
+                    if (sums[one] + lengths[way] < sums[other]) {
+                        sums[other] = sums[one] + lengths[way];
+                        lowered = true;
+                    } else if (sums[other] + lengths[way] < sums[one]) {
+                        sums[one] = sums[other] + lengths[way];
+                        lowered = true;
                     }
                 }
             }
-            summed[what] |= 1 << from;
         }
 
-        private boolean isUsable(int what, int way) {
-            int usable = what == SAFE ? openWays & ~text.badWays : openWays;
-            return (usable >> way & 1) != 0;
-        }
-
-        private boolean lower(int what, int way, int one, int other) {
-            int length = lengthOf(what, way);
-            if (sums[one] + length < sums[other]) {
-                sums[other] = sums[one] + length;
-                return true;
-            }
-            if (sums[other] + length < sums[one]) {
-                sums[one] = sums[other] + length;
-                return true;
-            }
-            return false;
-        }
-
-        private int lengthOf(int what, int way) {
-            return what == MINUTES ? text.minutes[way] : text.metres[way];
+        private int usableWays(int what) {
+            return what == SAFE ? openWays & ~text.badWays : openWays;
         }
 
         int placeInRow(int what, int a, int b, int i) {
-            if (!within(i, PLACES) || sumOf(what, b, a) >= NO_WAY) {
+            if (!within(i, PLACES) || sumOf(what, b, a) >= NO_SUM) {
                 return NONE;
             }
             int at = a;
@@ -1493,15 +1488,23 @@ public final class SchoolRides {
         /** The least place behind this one on a row with the least sum. */
         private int nextPlace(int what, int at, int b) {
             int next = NONE;
+            int usable = usableWays(what);
+            int[] lengths = what == MINUTES ? text.minutes : text.metres;
             for (int way = 0; way < text.ways; way++) {
-                int other = text.wayStarts[way] == at ? text.wayEnds[way]
-                        : text.wayEnds[way] == at ? text.wayStarts[way] : NONE;
-                if (other != NONE && isUsable(what, way) && (next == NONE || other < next)
-                        && sumOf(what, b, other) + lengthOf(what, way) == sumOf(what, b, at)) {
+                int other = otherEnd(way, at);
+                if (other != NONE && (usable >> way & 1) != 0 && (next == NONE || other < next)
+                        && sumOf(what, b, other) + lengths[way] == sumOf(what, b, at)) {
                     next = other;
                 }
             }
             return next;
+        }
+
+        private int otherEnd(int way, int at) {
+            if (text.wayStarts[way] == at) {
+                return text.wayEnds[way];
+            }
+            return text.wayEnds[way] == at ? text.wayStarts[way] : NONE;
         }
 
         void judgeAll() {
@@ -1531,7 +1534,7 @@ public final class SchoolRides {
 
         private int sumToSchool(int what, int schoolPlace, int home) {
             int sum = sumOf(what, schoolPlace, home);
-            return sum >= NO_WAY ? NOT_REACHED : sum;
+            return sum >= NO_SUM ? NOT_REACHED : sum;
         }
 
         private int nearestStop(int home) {
@@ -1556,7 +1559,7 @@ public final class SchoolRides {
 
         int stamp;
         final int[] seats = new int[STOPS];
-        /** By the set of stops: the minutes of its route; NO_WAY if it can't be driven or lacks riders. */
+        /** By the set of stops: the minutes of its route; NO_SUM if it can't be driven or lacks riders. */
         final int[] minutes = new int[SETS];
         final boolean[] isGood = new boolean[SETS];
         int routeTotal;
@@ -1577,14 +1580,13 @@ public final class SchoolRides {
         private final int[] choices = new int[SETS];
         private final int[] fews = new int[SETS];
 
-        /** The view's children must have been judged. */
         void make(View view, int school) {
             stamp = view.stamp;
             gatherRiders(view, school);
             gatherParted(view, school);
             measure(view, school);
             for (int set = 1; set < SETS; set++) {
-                minutes[set] = NO_WAY;
+                minutes[set] = NO_SUM;
                 isGood[set] = false;
                 if ((set & ~served) == 0) {
                     findRoute(set);
@@ -1663,7 +1665,7 @@ public final class SchoolRides {
             if (rest == 0) {
                 return toSchool[stop];
             }
-            int least = NO_WAY;
+            int least = NO_SUM;
             for (int j = 0; j < STOPS; j++) {
                 if ((rest >> j & 1) != 0) {
                     least = Math.min(least, legs[stop * STOPS + j] + sums[rest * STOPS + j]);
@@ -1673,7 +1675,7 @@ public final class SchoolRides {
         }
 
         int stopInRoute(int set, int i) {
-            if (!within(set, SETS) || !within(i, STOPS) || set == 0 || minutes[set] >= NO_WAY) {
+            if (!within(set, SETS) || !within(i, STOPS) || set == 0 || minutes[set] >= NO_SUM) {
                 return NONE;
             }
             int rest = set;
@@ -1728,7 +1730,7 @@ public final class SchoolRides {
             fews[set] = NO_ROUTES;
             int bit = set & -set;
             int stop = Integer.bitCount(bit - 1);
-            if (toSchool[stop] < NO_WAY) {
+            if (toSchool[stop] < NO_SUM) {
                 weighTaxi(set, bit, rules[Text.TAXI] * riders[stop] * toSchool[stop]);
             }
             int others = set ^ bit;
@@ -1806,7 +1808,7 @@ public final class SchoolRides {
         private static final int MOST = SCHOOLS * STOPS;
         private static final int STEP = 10;
         /** So far short of time that no shift helps. */
-        private static final int NEVER = -NO_WAY;
+        private static final int NEVER = -NO_SUM;
 
         int stamp;
         int leastBuses;
@@ -1851,7 +1853,7 @@ public final class SchoolRides {
             for (int x = 0; x < total; x++) {
                 for (int y = 0; y < total; y++) {
                     int drive = view.sumOf(MINUTES, schoolPlaces[schoolOf[x]], firstPlaces[y]);
-                    slack[x * MOST + y] = drive >= NO_WAY ? NEVER
+                    slack[x * MOST + y] = drive >= NO_SUM ? NEVER
                             : bells[schoolOf[y]] - spans[y] - bells[schoolOf[x]] - drive;
                 }
             }
@@ -1925,7 +1927,7 @@ public final class SchoolRides {
             Arrays.fill(reachedFrom, NONE);
             int tail = 1;
             queue[0] = x;
-            for (int head = 0; head < tail; head++) {
+            for (int head = 0; head < tail && head < queue.length; head++) {
                 int from = queue[head];
                 for (int y = 0; y < total; y++) {
                     if (reachedFrom[y] == NONE && canFollow(from, y)) {
@@ -1934,8 +1936,10 @@ public final class SchoolRides {
                             joinBack(y);
                             return true;
                         }
-                        queue[tail] = aheadOf[y];
-                        tail++;
+                        if (tail < queue.length) {
+                            queue[tail] = aheadOf[y];
+                            tail++;
+                        }
                     }
                 }
             }
@@ -1961,7 +1965,7 @@ public final class SchoolRides {
         private static final int SETS = 1 << ROUTES;
 
         int total;
-        /** By the set of routes left: the least sum of prices; NO_WAY without. */
+        /** By the set of routes left: the least sum of prices; NO_SUM without. */
         final int[] sums = new int[SETS];
         private final int[] firms = new int[MOST];
         private final int[] sets = new int[MOST];
@@ -2019,7 +2023,7 @@ public final class SchoolRides {
         }
 
         private void choose(int left, int without) {
-            sums[left] = NO_WAY;
+            sums[left] = NO_SUM;
             choices[left] = NONE;
             for (int i = 0; i < total; i++) {
                 if (fits(i, left, without) && prices[i] + sums[left ^ sets[i]] < sums[left]) {
@@ -2145,7 +2149,7 @@ public final class SchoolRides {
         private static final int MOST = 30;
 
         int total;
-        /** When each is told, the first one being the one of the latest spread; NO_WAY: never. */
+        /** When each is told, the first one being the one of the latest spread; NO_SUM: never. */
         final int[] times = new int[PEOPLE];
         private final int[] callers = new int[MOST];
         private final int[] called = new int[MOST];
@@ -2166,7 +2170,7 @@ public final class SchoolRides {
         }
 
         void spread(int first) {
-            Arrays.fill(times, NO_WAY);
+            Arrays.fill(times, NO_SUM);
             times[first] = 0;
             boolean altered = true;
             for (int round = 0; round < PEOPLE && altered; round++) {
@@ -2190,7 +2194,7 @@ public final class SchoolRides {
                 int toldCount = 0;
                 int end = 0;
                 for (int i = 0; i < PEOPLE; i++) {
-                    if (times[i] < NO_WAY) {
+                    if (times[i] < NO_SUM) {
                         toldCount++;
                         end = Math.max(end, times[i]);
                     }
