@@ -23,11 +23,11 @@ public final class SchoolRides {
     /** Stands for a sum that there is not: above every sum of metres, minutes or prices; seven of it fit an int. */
     private static final int NO_SUM = 1 << 28;
 
-    private final Tape tape;
     private final Reader reader;
+    private final Tape tape;
+    private final View view;
     private final Text[] texts;
     private final Facts facts;
-    private final View view;
     private final Plan[] plans;
     private final Fleet buses;
     private final Tender tender;
@@ -39,14 +39,11 @@ public final class SchoolRides {
     private int lentSecond;
 
     public SchoolRides() {
-        tape = new Tape();
-        reader = new Reader(tape);
-        texts = new Text[3];
-        for (int i = 0; i < texts.length; i++) {
-            texts[i] = new Text();
-        }
-        facts = new Facts();
-        view = new View(facts, texts[0]);
+        reader = new Reader();
+        tape = reader.tape;
+        view = new View();
+        texts = view.texts;
+        facts = view.facts;
         plans = new Plan[SCHOOLS];
         for (int i = 0; i < plans.length; i++) {
             plans[i] = new Plan();
@@ -483,7 +480,7 @@ public final class SchoolRides {
         if (number == NONE || !isKnowledge(n)) {
             return false;
         }
-        view.turn(texts[number], number, day, n);
+        view.turn(number, day, n);
         return true;
     }
 
@@ -908,7 +905,7 @@ public final class SchoolRides {
 
         int fault;
         int faultPlace;
-        private final Tape tape;
+        final Tape tape = new Tape();
         private int at;
         private int lateFault;
         private int latePlace;
@@ -922,10 +919,6 @@ public final class SchoolRides {
         private boolean mayNegate;
         private boolean isLeftSide;
         private int depth;
-
-        Reader(Tape tape) {
-            this.tape = tape;
-        }
 
         void readTape(Text text) {
             fault = 0;
@@ -1384,6 +1377,8 @@ public final class SchoolRides {
     private static final class View {
         private static final int NOT_REACHED = 9999;
 
+        final Text[] texts = new Text[3];
+        final Facts facts = new Facts();
         Text text;
         int day;
         int n;
@@ -1392,7 +1387,6 @@ public final class SchoolRides {
         int childrenKnown;
         final int[] rightOf = new int[Facts.CHILDREN];
         final int[] stopOf = new int[Facts.CHILDREN];
-        final Facts facts;
         private int textNumber;
         private int openWays;
         /** By what is summed: the places, as bits, whose sums are found. */
@@ -1401,17 +1395,19 @@ public final class SchoolRides {
         private int judged;
         private final int[] variables = new int[Text.VARIABLES];
 
-        View(Facts facts, Text text) {
-            this.facts = facts;
-            this.text = text;
+        View() {
+            for (int i = 0; i < texts.length; i++) {
+                texts[i] = new Text();
+            }
+            text = texts[0];
             textNumber = NONE;
         }
 
-        void turn(Text newText, int number, int newDay, int newN) {
-            if (number == textNumber && newDay == day && newN == n) {
+        void turn(int number, int newDay, int newN) {
+            if (!within(number, texts.length) || number == textNumber && newDay == day && newN == n) {
                 return;
             }
-            text = newText;
+            text = texts[number];
             textNumber = number;
             day = newDay;
             n = newN;
@@ -1445,8 +1441,9 @@ public final class SchoolRides {
         /** Lowers the sums along all ways until none can be lowered: at most once for each place. */
         private void findSums(int what, int from) {
             int base = (what * PLACES + from) * PLACES;
-            Arrays.fill(sums, base, base + PLACES, NO_SUM);
-            sums[base + from] = 0;
+            for (int i = 0; i < PLACES; i++) {
+                sums[base + i] = i == from ? 0 : NO_SUM;
+            }
             summed[what] |= 1 << from;
             int usable = usableWays(what);
             int[] lengths = what == MINUTES ? text.minutes : text.metres;
