@@ -208,7 +208,7 @@ public final class SchoolRides {
     }
 
     public int route(int school, int set, int day, int n) {
-        if (!canRoute(school, set, day, n)) {
+        if (!canPlan(school, day, n) || !isStopSet(set)) {
             return NONE;
         }
         int sum = plans[school].minutes[set];
@@ -216,14 +216,14 @@ public final class SchoolRides {
     }
 
     public int routeStop(int school, int set, int day, int n, int i) {
-        if (!canRoute(school, set, day, n)) {
+        if (!canPlan(school, day, n) || !isStopSet(set)) {
             return NONE;
         }
         return plans[school].stopInRoute(set, i);
     }
 
     public int good(int school, int set, int day, int n) {
-        if (!canRoute(school, set, day, n)) {
+        if (!canPlan(school, day, n) || !isStopSet(set)) {
             return NONE;
         }
         if (plans[school].minutes[set] >= NO_SUM) {
@@ -505,8 +505,8 @@ public final class SchoolRides {
         return true;
     }
 
-    private boolean canRoute(int school, int set, int day, int n) {
-        return canPlan(school, day, n) && set != 0 && within(set, 1 << view.text.stops);
+    private boolean isStopSet(int set) {
+        return set != 0 && within(set, 1 << view.text.stops);
     }
 
     /** The view's children must have been judged. */
@@ -1388,7 +1388,8 @@ public final class SchoolRides {
         final int[] rightOf = new int[Facts.CHILDREN];
         final int[] stopOf = new int[Facts.CHILDREN];
         private int textNumber;
-        private int openWays;
+        /** By what is summed: the ways, as bits, that are not shut, and for SAFE not bad. */
+        private final int[] usableWays = new int[3];
         /** By what is summed: the places, as bits, whose sums are found. */
         private final int[] summed = new int[3];
         private final int[] sums = new int[3 * PLACES * PLACES];
@@ -1415,16 +1416,19 @@ public final class SchoolRides {
             childrenKnown = facts.childrenKnown(n);
             judged = 0;
             Arrays.fill(summed, 0);
-            findOpenWays();
+            findUsableWays();
         }
 
-        private void findOpenWays() {
-            openWays = (1 << text.ways) - 1;
+        private void findUsableWays() {
+            int open = (1 << text.ways) - 1;
             for (int i = 0; i < n; i++) {
                 if (facts.isKnown(i, Facts.SHUT, n) && facts.second[i] <= day && day <= facts.third[i]) {
-                    openWays &= ~(1 << facts.first[i]);
+                    open &= ~(1 << facts.first[i]);
                 }
             }
+            usableWays[FAR] = open;
+            usableWays[SAFE] = open & ~text.badWays;
+            usableWays[MINUTES] = open;
         }
 
         /** FAR, SAFE or MINUTES of two places; NO_SUM without. */
@@ -1445,7 +1449,7 @@ public final class SchoolRides {
                 sums[base + i] = i == from ? 0 : NO_SUM;
             }
             summed[what] |= 1 << from;
-            int usable = usableWays(what);
+            int usable = usableWays[what];
             int[] lengths = what == MINUTES ? text.minutes : text.metres;
             boolean lowered = true;
             for (int round = 0; round < PLACES && lowered; round++) {
@@ -1467,10 +1471,6 @@ public final class SchoolRides {
             }
         }
 
-        private int usableWays(int what) {
-            return what == SAFE ? openWays & ~text.badWays : openWays;
-        }
-
         int placeInRow(int what, int a, int b, int i) {
             if (!within(i, PLACES) || sumOf(what, b, a) >= NO_SUM) {
                 return NONE;
@@ -1485,7 +1485,7 @@ public final class SchoolRides {
         /** The least place behind this one on a row with the least sum. */
         private int nextPlace(int what, int at, int b) {
             int next = NONE;
-            int usable = usableWays(what);
+            int usable = usableWays[what];
             int[] lengths = what == MINUTES ? text.minutes : text.metres;
             for (int way = 0; way < text.ways; way++) {
                 int other = otherEnd(way, at);
@@ -1522,15 +1522,14 @@ public final class SchoolRides {
             int schoolPlace = school < text.schools ? text.schoolPlaces[school] : NONE;
             variables[0] = facts.third[fact];
             variables[1] = facts.fourth[fact];
-            variables[2] = sumToSchool(FAR, schoolPlace, home);
-            variables[3] = sumToSchool(SAFE, schoolPlace, home);
+            variables[2] = orNotReached(sumOf(FAR, schoolPlace, home));
+            variables[3] = orNotReached(sumOf(SAFE, schoolPlace, home));
             variables[4] = day;
             rightOf[child] = text.firstRight(variables);
             stopOf[child] = rightOf[child] == NONE || schoolPlace == NONE ? NONE : nearestStop(home);
         }
 
-        private int sumToSchool(int what, int schoolPlace, int home) {
-            int sum = sumOf(what, schoolPlace, home);
+        private static int orNotReached(int sum) {
             return sum >= NO_SUM ? NOT_REACHED : sum;
         }
 
