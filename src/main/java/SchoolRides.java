@@ -538,8 +538,8 @@ public final class SchoolRides {
     private int findLent(int n, int wanted) {
         int found = 0;
         for (int i = 0; i < n; i++) {
-            for (int j = i + 1; j < n; j++) {
-                if (facts.areTapsOfOneDay(i, j, n) && look(facts.third[i], n) && isLent(i, j)) {
+            for (int j = i + 1; j < n && facts.isKnown(i, Facts.TAP, n); j++) {
+                if (facts.areAlikeTaps(i, j, n) && look(facts.third[i], n) && isLent(i, j)) {
                     if (found == wanted) {
                         lentFirst = i;
                         lentSecond = j;
@@ -1364,9 +1364,9 @@ public final class SchoolRides {
             return latest;
         }
 
-        boolean areTapsOfOneDay(int fact, int other, int n) {
-            return isKnown(fact, TAP, n) && isKnown(other, TAP, n)
-                    && first[fact] == first[other] && third[fact] == third[other];
+        /** Whether another fact is a tap too, of the same child on the same day. */
+        boolean areAlikeTaps(int tap, int other, int n) {
+            return third[tap] == third[other] && first[tap] == first[other] && isKnown(other, TAP, n);
         }
     }
 
@@ -1802,9 +1802,11 @@ public final class SchoolRides {
     /** The buses that do the routes of all plans one behind the other. */
     private static final class Fleet {
         private static final int MOST = SCHOOLS * STOPS;
+        /** A bell is put by up to two steps either way, and so by up to four against another. */
         private static final int STEP = 10;
-        /** So far short of time that no shift helps. */
-        private static final int NEVER = -NO_SUM;
+        private static final int FARTHEST = 2;
+        private static final int PUTS = 2 * FARTHEST + 1;
+        private static final int DIFFERENCES = 4 * FARTHEST + 1;
 
         int stamp;
         int leastBuses;
@@ -1817,9 +1819,11 @@ public final class SchoolRides {
         private final int[] spans = new int[MOST];
         private final int[] schoolPlaces = new int[SCHOOLS];
         private final int[] bells = new int[SCHOOLS];
+        /** How many steps each bell is put. */
         private final int[] puts = new int[SCHOOLS];
-        /** By x and y: the minutes that a bus has left between route x and route y behind it. */
-        private final int[] slack = new int[MOST * MOST];
+        /** By x, a school and the steps its bell is put against x's: its routes, as bits, that can follow x. */
+        private final int[] followersByPut = new int[MOST * SCHOOLS * DIFFERENCES];
+        private final int[] followers = new int[MOST];
         private final int[] nextOf = new int[MOST];
         private final int[] aheadOf = new int[MOST];
         private final int[] reachedFrom = new int[MOST];
@@ -1846,11 +1850,25 @@ public final class SchoolRides {
         }
 
         void measure(View view) {
+            Arrays.fill(followersByPut, 0);
             for (int x = 0; x < total; x++) {
                 for (int y = 0; y < total; y++) {
                     int drive = view.sumOf(MINUTES, schoolPlaces[schoolOf[x]], firstPlaces[y]);
-                    slack[x * MOST + y] = drive >= NO_SUM ? NEVER
-                            : bells[schoolOf[y]] - spans[y] - bells[schoolOf[x]] - drive;
+                    if (drive < NO_SUM) {
+                        noteFollower(x, y, bells[schoolOf[y]] - spans[y] - bells[schoolOf[x]] - drive);
+                    }
+                }
+            }
+        }
+
+        /** The time left is what a bus has between x and y while no bell is put. */
+        private void noteFollower(int x, int y, int timeLeft) {
+            int base = (x * SCHOOLS + schoolOf[y]) * DIFFERENCES;
+            for (int i = 0; i < DIFFERENCES; i++) {
+                int put = (i - 2 * FARTHEST) * STEP;
+                boolean alikeBells = bells[schoolOf[x]] == bells[schoolOf[y]] + put;
+                if (timeLeft + put >= 0 && (x < y || !alikeBells)) {
+                    followersByPut[base + i] |= 1 << y;
                 }
             }
         }
@@ -1868,7 +1886,7 @@ public final class SchoolRides {
             shiftsAreFound = true;
             leastBuses = MOST + 1;
             int leastSum = 0;
-            for (int i = 0; i < 125; i++) {
+            for (int i = 0; i < PUTS * PUTS * PUTS; i++) {
                 putBells(i);
                 int sum = Math.abs(puts[0]) + Math.abs(puts[1]) + Math.abs(puts[2]);
                 if (putsExistingAlone() && (sum < leastSum || leastBuses > 1)) {
@@ -1876,16 +1894,22 @@ public final class SchoolRides {
                     if (needed < leastBuses || needed == leastBuses && sum < leastSum) {
                         leastBuses = needed;
                         leastSum = sum;
-                        System.arraycopy(puts, 0, bestPuts, 0, SCHOOLS);
+                        keepPuts();
                     }
                 }
             }
         }
 
         private void putBells(int i) {
-            puts[0] = (i / 25 - 2) * STEP;
-            puts[1] = (i / 5 % 5 - 2) * STEP;
-            puts[2] = (i % 5 - 2) * STEP;
+            puts[0] = i / (PUTS * PUTS) - FARTHEST;
+            puts[1] = i / PUTS % PUTS - FARTHEST;
+            puts[2] = i % PUTS - FARTHEST;
+        }
+
+        private void keepPuts() {
+            for (int school = 0; school < SCHOOLS; school++) {
+                bestPuts[school] = puts[school] * STEP;
+            }
         }
 
         private boolean putsExistingAlone() {
@@ -1899,8 +1923,11 @@ public final class SchoolRides {
 
         /** Each route that follows another on one bus spares a bus: as many such pairs as can be. */
         private int fewestBuses() {
-            Arrays.fill(nextOf, NONE);
-            Arrays.fill(aheadOf, NONE);
+            for (int x = 0; x < total; x++) {
+                followers[x] = followersOf(x);
+                nextOf[x] = NONE;
+                aheadOf[x] = NONE;
+            }
             int needed = total;
             for (int x = 0; x < total; x++) {
                 if (findFollower(x)) {
@@ -1910,32 +1937,34 @@ public final class SchoolRides {
             return needed;
         }
 
-        private boolean canFollow(int x, int y) {
-            int put = puts[schoolOf[y]] - puts[schoolOf[x]];
-            if (slack[x * MOST + y] + put < 0) {
-                return false;
+        private int followersOf(int x) {
+            int all = 0;
+            for (int school = 0; school < schools; school++) {
+                int steps = puts[school] - puts[schoolOf[x]] + 2 * FARTHEST;
+                all |= followersByPut[(x * SCHOOLS + school) * DIFFERENCES + steps];
             }
-            return x < y || bells[schoolOf[x]] != bells[schoolOf[y]] + put;
+            return all;
         }
 
-        /** Seeks a route for x to be done ahead of, where others may change theirs to make it free. */
+        /** Seeks a route that x can be done ahead of, where others may change theirs to make it free. */
         private boolean findFollower(int x) {
-            Arrays.fill(reachedFrom, NONE);
+            int reached = 0;
             int tail = 1;
             queue[0] = x;
             for (int head = 0; head < tail && head < queue.length; head++) {
-                int from = queue[head];
-                for (int y = 0; y < total; y++) {
-                    if (reachedFrom[y] == NONE && canFollow(from, y)) {
-                        reachedFrom[y] = from;
-                        if (aheadOf[y] == NONE) {
-                            joinBack(y);
-                            return true;
-                        }
-                        if (tail < queue.length) {
-                            queue[tail] = aheadOf[y];
-                            tail++;
-                        }
+                int open = followers[queue[head]] & ~reached;
+                reached |= open;
+                for (int i = 0; i < MOST && open != 0; i++) {
+                    int y = Integer.bitCount((open & -open) - 1);
+                    open &= open - 1;
+                    reachedFrom[y] = queue[head];
+                    if (aheadOf[y] == NONE) {
+                        joinBack(y);
+                        return true;
+                    }
+                    if (tail < queue.length) {
+                        queue[tail] = aheadOf[y];
+                        tail++;
                     }
                 }
             }
