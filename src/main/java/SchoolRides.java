@@ -1564,7 +1564,7 @@ public final class SchoolRides {
         private final int[] riders = new int[STOPS];
         private int served;
         private int nurseStops;
-        /** By stop: the stops, as bits, that have a rider parted from one of its own. */
+        /** By stop: the stops, as bits, that have a rider parted from one of its own (told at one of the two). */
         private final int[] apart = new int[STOPS];
         private final int[] toSchool = new int[STOPS];
         private final int[] legs = new int[STOPS * STOPS];
@@ -1623,7 +1623,6 @@ public final class SchoolRides {
                     int other = riderStop(view, school, view.facts.second[i]);
                     if (one != NONE && other != NONE) {
                         apart[one] |= 1 << other;
-                        apart[other] |= 1 << one;
                     }
                 }
             }

@@ -94,6 +94,19 @@ public final class FleetTest {
         for (int i = 0; i < 3; i++) {
             Check.due("shift", x.shift(i, 0, 3), due[i]);
         }
+        // two buses at least: each school has two routes at a time
+        SchoolRides pairs = Check.with("place m;place p;place q;way m p 1 5;way m q 1 5;school a at m 480;school b at m 485;"
+                + "school c at m 480;stop t at p;stop u at q;" + RULES);
+        for (int i = 0; i < 6; i++) {
+            pairs.child(1 + i % 2, i / 2, 0, 0);
+        }
+        Check.due("fleet of six routes", pairs.fleet(0, 6), 6);
+        Check.due("shifted", pairs.shifted(0, 6), 2);
+        int[] puts = {-10, 10, 0};
+        // a at 470, c at 480, b at 495, or c at 470 and a at 480: each 10 minutes apart, the first by school 0
+        for (int i = 0; i < 3; i++) {
+            Check.due("shift of pairs", pairs.shift(i, 0, 6), puts[i]);
+        }
         x.move(0, 0, 7, false);
         Check.due("without school 0's rider", x.fleet(7, 4), 2);
         Check.due("shifted", x.shifted(7, 4), 1);

@@ -76,6 +76,7 @@ public final class ListsTest {
         }
         SchoolRides y = new SchoolRides();
         y.bid(0, 1, 5);
+        Check.due("one", y.award(1, -1), 5);
         y.bid(0, 6, 5);
         y.bid(0, 4, 0);
         y.bid(0, 3, 10);
@@ -146,7 +147,9 @@ public final class ListsTest {
         Check.due("weights of 0", x.cover(2), 0);
         Check.due("the least driver first", x.drives(2, 0), 0);
         Check.due("then nobody", x.drives(2, 1), -2);
+        Check.due("cover of one", x.cover(1), 0);
         x.leave(0, true);
+        Check.due("one driver less, asked alike", x.drives(1, 0), 1);
         x.leave(0, true);
         Check.due("left twice", x.drives(2, 0), 1);
         x.leave(0, false);
@@ -263,6 +266,10 @@ public final class ListsTest {
         Check.due("no such stop", x.lent(5), 1);
         Check.due("first", x.lentAt(5, 0, false), 1);
         Check.due("second", x.lentAt(5, 0, true), 2);
+        x.tap(0, 0, 3, 500);
+        x.tap(0, 1, 3, 700);
+        Check.due("stop 1 of one stop", x.lent(7), 6);
+        Check.due("stop 0 is there, stop 1 not", x.lentAt(7, 5, true), 6);
         Check.due("read", Check.read(x, "", 9), 0);
         Check.due("no stops from day 9 on", x.lent(5), 2);
     }
