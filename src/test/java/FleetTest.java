@@ -7,6 +7,7 @@ public final class FleetTest {
         alikeBells();
         shifts();
         ties();
+        asManyRoutesAsCanBe();
         noPlan();
         wrongCalls();
         Check.finish();
@@ -113,6 +114,42 @@ public final class FleetTest {
         Check.due("school 0 stays", x.shift(0, 7, 4), 0);
         Check.due("school 1 sooner", x.shift(1, 7, 4), -10);
         Check.due("school 2 stays", x.shift(2, 7, 4), 0);
+    }
+
+    /** Three schools at one place, six stops 5 minutes away, a route for each: 18 routes. */
+    private static SchoolRides star(int bell, int second, int third) {
+        StringBuilder text = new StringBuilder("place m;");
+        for (char c = 'a'; c < 'g'; c++) {
+            text.append("place p").append(c).append(";way m p").append(c).append(" 1 5;stop t").append(c).append(" at p")
+                    .append(c).append(';');
+        }
+        text.append("school a at m ").append(bell).append(";school b at m ").append(second).append(";school c at m ")
+                .append(third).append(';').append(RULES);
+        SchoolRides x = Check.with(text.toString());
+        for (int i = 0; i < 18; i++) {
+            x.child(1 + i % 6, i / 6, 0, 0);
+        }
+        return x;
+    }
+
+    private static void asManyRoutesAsCanBe() {
+        SchoolRides apart = star(480, 490, 500);
+        Check.due("routes", apart.routes(2, 0, 18), 6);
+        Check.due("fleet", apart.fleet(0, 18), 6);
+        Check.due("shifted", apart.shifted(0, 18), 6);
+        SchoolRides short0 = star(480, 489, 499);
+        Check.due("a minute short", short0.fleet(0, 18), 12);
+        Check.due("shifted", short0.shifted(0, 18), 6);
+        Check.due("school 0 sooner", short0.shift(0, 0, 18), -10);
+        Check.due("school 1 stays", short0.shift(1, 0, 18), 0);
+        Check.due("school 2 stays", short0.shift(2, 0, 18), 0);
+        SchoolRides alike = star(480, 480, 480);
+        Check.due("fleet", alike.fleet(0, 18), 18);
+        Check.due("shifted", alike.shifted(0, 18), 6);
+        Check.due("known then", alike.fleet(0, 7), 7);
+        for (int school = 0; school < 3; school++) {
+            Check.due("shift", alike.shift(school, 0, 18), 10 * school - 10);
+        }
     }
 
     private static void noPlan() {
