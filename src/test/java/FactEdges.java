@@ -26,11 +26,12 @@ final class FactEdges {
         homePromise();
     }
 
-    /** Two children and 98 facts more: there are 100. */
+    /** Two children and 98 facts more, of every kind: there are 100. */
     private static Run full(String section, String sentence) {
-        Run run = Run.of(section, sentence).ask("child 3 0 0 0 = 0; child 4 1 0 0 = 1");
-        for (int i = 2; i < 100; i++) {
-            run.ask("shut 0 0 0 = " + i);
+        Run run = Run.of(section, sentence).read(0, Rich.TEXT).ask("child 0 0 0 0 = 0; child 1 0 0 0 = 1; move 0 1 0 false = 2; move 1 2 0 true = 3",
+                "shut 0 0 9 = 4; part 0 1 = 5; tap 0 0 7 480 = 6; tap 0 1 7 481 = 7; annul 4 = 8");
+        for (int i = 9; i < 100; i++) {
+            run.ask("shut " + (i == 99 ? 1 : 23) + " 0 364 = " + i);
         }
         return run.ask("count 1 = 100; count 2 = 2");
     }
@@ -43,7 +44,15 @@ final class FactEdges {
 
     private static void hundredFacts() {
         full("II", "100 at most;").refuse("child 0 0 0 0 = -1; move 0 0 0 false = -1; move 0 0 0 true = -1; shut 0 0 0 = -1",
-                "part 0 1 = -1; tap 0 0 0 0 = -1; annul 50 = -1; annul 99 = -1").ask("home 1 0 100 = 4; lent 100 = 0");
+                "part 0 1 = -1; tap 0 0 0 0 = -1; annul 50 = -1; annul 99 = -1").ask("home 1 0 100 = 1; lent 100 = 1");
+        // all that hangs on facts, with a hundred of them
+        Run run = Run.of("II", "100 at most;").read(0, Rich.TEXT).ask("child 0 0 0 0; child 1 0 0 0");
+        for (int i = 2; i < 97; i++) {
+            run.ask("shut 23 0 364 = " + i);
+        }
+        run.ask("part 0 1 = 97; tap 0 0 0 0 = 98; move 0 2 0 true = 99; good 0 3 0 97 = 1; good 0 3 0 98 = 0; good 0 3 0 100 = 0; pay 0 0 100 = 162",
+                "home 0 7 100 = 2; home 0 7 99 = 0; dist 0 1 0 0 100 = 400; row 0 1 0 0 100 1 = 1; lent 100 = 0; right 0 0 100 = 0; stop 0 7 100 = 2",
+                "load 0 0 7 100 = 0; load 0 0 0 100 = 1; fleet 0 100 = 0; shifted 0 100 = 0; shift 0 0 100 = 0; altered 0 7 100 = 0; taxis 0 0 100 = 3; fewest 0 0 100 = 2");
     }
 
     private static void knownByN() {
@@ -157,6 +166,9 @@ final class FactEdges {
     private static void part() {
         Run.of("II", "PARTED: two CHILDREN.").read(0, Rich.TEXT).ask("child 0 0 0 0; child 1 0 0 0; child 2 0 0 0; good 0 7 0 3 = 1",
                 "part 1 0 = 3; good 0 3 0 4 = 0; good 0 7 0 4 = 0; good 0 5 0 4 = 1; good 0 6 0 4 = 1; part 0 1 = 4; good 0 3 0 5 = 0");
+        // a TAP at stop 1 parts nobody from child 1, and who is PARTED has no TAP
+        Run.of("II", "PARTED: two CHILDREN.").read(0, Rich.TEXT).ask("child 0 0 0 0; child 1 0 0 0; tap 0 1 0 0; tap 0 1 7 0; good 0 3 0 4 = 1; good 0 3 7 4 = 1")
+                .again().read(0, Rich.TEXT).ask("child 0 0 0 0; child 1 0 0 0; tap 0 0 0 0; part 0 1; part 1 0; lent 5 = 0; lent 4 = 0");
         Run.of("9", "PARTED: likewise;").ask("child 0 0 0 0; child 0 0 0 0; part 0 1 = 2; part 1 0 = 3; part 0 1 = 4");
         full("9", "PARTED: likewise;").refuse("part 0 1 = -1; part 1 0 = -1");
         Rich.tell(Run.of("9", "no such CHILDREN,")).refuse("part -1 0 = -1; part 0 -1 = -1; part 6 0 = -1; part 0 6 = -1; part MAX 0 = -1",
@@ -183,7 +195,8 @@ final class FactEdges {
                 "shut 0 0 0; part 0 1; tap 0 0 0 0; annul 6 = 7; annul 5 = 8; annul 4 = 9; annul 3 = 10; annul 2 = 11",
                 "annul 0 = -1; annul 1 = -1; annul 7 = -1; annul 11 = -1; count 1 = 12");
         Run.of("11", "VOID: likewise;").ask("shut 0 0 0; annul 0 = 1; shut 0 0 0 = 2; annul 2 = 3; annul 2 = 4; count 1 = 5");
-        full("11", "VOID: likewise;").refuse("annul 2 = -1; annul 99 = -1");
+        full("11", "VOID: likewise;").refuse("annul 2 = -1; annul 3 = -1; annul 4 = -1; annul 5 = -1; annul 6 = -1; annul 7 = -1; annul 9 = -1; annul 99 = -1",
+                "annul 0 = -1; annul 8 = -1; annul 100 = -1");
         Rich.tell(Run.of("11", "no such FACT, a CHILD, a VOID.")).refuse("annul -1 = -1; annul 16 = -1; annul MAX = -1; annul MIN = -1",
                 "annul 100 = -1; annul 0 = -1; annul 5 = -1; annul 11 = -1").ask("annul 15 = 16; annul 6 = 17")
                 .refuse("annul 16 = -1; annul 17 = -1; annul 18 = -1");

@@ -34,7 +34,7 @@ final class FaultEdges {
     }
 
     private static void fault(String text, int number, int place) {
-        run.again().text(text).ask("read 0 = " + number + "; place = " + place + "; count 0 = " + (number == 0 ? 1 : 0));
+        run.fault(text, number, place);
     }
 
     private static void fine(String text) {
@@ -153,11 +153,33 @@ final class FaultEdges {
         fault(full + "seats 0;", 2, full.length());
         String names = "place a;".repeat(3);
         fault(names + "ride 1;".repeat(129) + "bus 1 1;walk", 2, names.length() + 129 * 7 + 8);
+        for (String tell : new String[] {"place c ;", "way a b 1 1 bad ;", "school s at a 1 ;", "stop t at a ;", "right if 1 == 1 and not ( far + 2 ) * 3 <= 4 ;",
+            "seats 1 ;", "ride 1 ;", "walk 1 ;", "taxi 1 ;", "nurse 1 ;", "bus 1 1 ;"}) {
+            eachToken(tell);
+        }
         fine("right if " + "not ".repeat(394) + "1<2;");
         fault("right if " + "not ".repeat(395) + "1<2;", 2, 9 + 4 * 395 + 3);
         fault("right if " + "not ".repeat(398) + "(", 2, 9 + 4 * 398);
         fine("right if 0" + "+1".repeat(197) + "<2;");
         fault("right if 0" + "+1".repeat(198) + "<2;", 2, 10 + 2 * 198 + 1);
+    }
+
+    /** Each token of a tell is the 401st once; with its last one as the 400th it is fine. */
+    private static void eachToken(String tell) {
+        String[] tokens = tell.split(" ");
+        for (int i = 0; i <= tokens.length; i++) {
+            int filled = 400 - i - 6;
+            int fours = filled % 3;
+            String text = MAP + "bus 1 1;".repeat(fours) + "ride 1;".repeat((filled - 4 * fours) / 3);
+            for (int k = 0; k < i; k++) {
+                text += tokens[k] + " ";
+            }
+            if (i == tokens.length) {
+                fine(text);
+            } else {
+                fault(text + tokens[i], 2, text.length());
+            }
+        }
     }
 
     private static String many(int count, String before, String after) {
@@ -238,6 +260,12 @@ final class FaultEdges {
         fault("place m;school s at m 1;stop s at m;", 3, 29);
         fault("place abcdefgh;place abcdefgh;", 3, 21);
         fine("place abcdefgh;place abcdefg;place bcdefgh;");
+        // each of twenty names, if the last one is told again
+        String all = many(12, "place ", ";") + "school s at qa 1;school t at qa 1;school u at qa 1;" + many(5, "stop z", " at qa;");
+        for (String name : (many(12, "", " ") + "s t u " + many(5, "z", " ")).trim().split(" ")) {
+            fault(all + "stop " + name + " at qa;", 3, all.length() + 5);
+        }
+        fine(all + "stop v at qa;");
         // of the text itself alone
         run.again().read(0, "place a;stop s at a;").read(0, "place s;stop a at s;");
     }
@@ -308,7 +336,11 @@ final class FaultEdges {
         rich.refuseText("school z at x 1;", 4, 12);
         rich.refuseText("place x;place y;way x y 1 1;school z at x 1440;seats 1;", 5, 42);
         rich.ask("count 0 = 1; force 0 = 0");
-        // nor does it change what the next text tells
+        // nor does it change what the next text tells, however full it was
+        run.fault(many(12, "place ", ";") + "way qa qb 1 1 bad;".repeat(24) + "school s at qa 1;school t at qa 2;school u at qa 3;"
+                + many(6, "stop z", " at qa;") + "right if 0==0;".repeat(8) + "seats 1;ride 1;walk 1;taxi 1;nurse 1;bus 1 1;seats 0;", 5, 844);
+        run.fault("place a;right if not 1<2 and not (2*(3+ ;", 1, 40);
+        run.fault("right if 0==0 or not 1+2*(((((1 x", 1, 32);
         Run walk = run.again().text("seats 1;ride 1;walk 1;taxi 1;nurse 1;bus 1 1;right if 0==0;place a;place a;").ask("read 0 = 3");
         walk.read(0, YARD + "way a b 9 45;taxi 9999;").ask("count 40 = 1; child 0 0 0 1; good 0 1 0 1 = 1; pay 0 0 1 = 220");
     }

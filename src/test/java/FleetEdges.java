@@ -64,13 +64,18 @@ final class FleetEdges {
                 "fleet 0 2 = 1");
     }
 
-    /** Three schools at one place and six stops 5 minutes away: up to 18 routes of 5 minutes. */
-    private static Run three(Run run, int bell, int second, int third, int children) {
+    /** Three schools at one place and six stops 5 minutes away. */
+    private static String around(int bell, int second, int third) {
         StringBuilder text = new StringBuilder("place m;");
         for (char c = 'a'; c < 'g'; c++) {
             text.append("place p").append(c).append(";way m p").append(c).append(" 1 5;stop t").append(c).append(" at p").append(c).append(';');
         }
-        Run x = run.again().read(0, text + "school a at m " + bell + ";school b at m " + second + ";school c at m " + third + ";" + RULES);
+        return text + "school a at m " + bell + ";school b at m " + second + ";school c at m " + third + ";" + RULES;
+    }
+
+    /** As many children as are wanted, up to six of each school: each has a route of 5 minutes of its own. */
+    private static Run three(Run run, int bell, int second, int third, int children) {
+        Run x = run.again().read(0, around(bell, second, third));
         for (int i = 0; i < children; i++) {
             x.ask("child " + (1 + i % 6) + " " + i / 6 + " 0 0");
         }
@@ -95,6 +100,10 @@ final class FleetEdges {
         x.ask("child 4 0 0 0; child 1 1 0 0; child 2 1 0 0; child 1 2 0 0; route 0 4 0 4 = 14; route 1 1 0 4 = 5; route 1 2 0 4 = 5; route 2 1 0 4 = 4",
                 "fleet 0 1 = 1; fleet 0 2 = 1; fleet 0 3 = 2; fleet 0 4 = 2; shut 1 5 5; shut 3 5 5; fleet 5 6 = -2; fleet 5 4 = 2",
                 "shut 1 6 6; fleet 6 7 = 3; fleet 7 7 = 2");
+        // school 0's bus may go on by p, q or r, both of school 2 by p alone: one of them ends there
+        run.again().read(0, "place m;place p;place q;place n;place o;place r;way m p 1 10;way m q 1 10;way m r 1 10;way p n 1 5;way q n 1 5;way r n 1 5;way o p 1 4;"
+                + "school a at m 480;school b at n 500;school c at o 486;stop tp at p;stop tq at q;stop tr at r;stop to at o;" + RULES)
+                .ask("child 4 0 0 0; child 1 1 0 0; child 2 1 0 0; child 5 1 0 0; child 1 2 0 0; child 2 2 0 0; fleet 0 4 = 3; fleet 0 5 = 3; fleet 0 6 = 4");
     }
 
     private static void putBells() {
@@ -115,6 +124,14 @@ final class FleetEdges {
         three(run, 480, 480, 480, 18).ask("shifted 0 18 = 6; shift 0 0 18 = -10; shift 1 0 18 = 0; shift 2 0 18 = 10");
         three(run, 480, 489, 499, 18).ask("shifted 0 18 = 6; shift 0 0 18 = -10; shift 1 0 18 = 0; shift 2 0 18 = 0");
         three(run, 480, 490, 499, 18).ask("shifted 0 18 = 6; shift 0 0 18 = 0; shift 1 0 18 = 0; shift 2 0 18 = 10");
+        // 18 routes of three schools of which none is soon enough at another
+        Run apart = run.again().read(0, WayEdges.line() + "school a at qc 480;school b at qf 480;school c at qi 480;stop ta at qa;stop tb at qb;stop td at qd;stop te at qe;"
+                + "stop tg at qg;stop th at qh;ride 999;" + RULES);
+        for (int i = 0; i < 18; i++) {
+            apart.ask("child " + new int[] {0, 1, 3, 4, 6, 7}[i / 3] + " " + i % 3 + " 0 0");
+        }
+        apart.read(10, around(480, 480, 480)).ask("shifted 10 18 = 4; shift 0 10 18 = -10; shift 1 10 18 = 0; shift 2 10 18 = 10");
+        apart.ask("routes 0 0 18 = 6; routes 1 0 18 = 6; routes 2 0 18 = 6; fleet 0 18 = 18; shifted 0 18 = 18; shift 0 0 18 = 0; shift 1 0 18 = 0; shift 2 0 18 = 0");
         // the plans are those of the bells told, and the fleet too
         three(run, 480, 480, 480, 18).ask("fleet 0 18 = 18; shifted 0 18 = 6; fleet 0 18 = 18; pay 0 0 18 = 0; routes 0 0 18 = 6");
     }

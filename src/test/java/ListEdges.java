@@ -148,7 +148,8 @@ final class ListEdges {
 
     private static void weigh() {
         Run.of("36", "RIDERS of a ROUTE 0 .. 9 for COVER (1 each at first): true;").ask("cover 10 = 10; cover 1 = 1; weigh 0 0 = true; cover 10 = 9; cover 1 = 0; weigh 9 99 = true",
-                "cover 10 = 107; cover 9 = 8; weigh 0 99 = true; weigh 0 3 = true; cover 10 = 110; weigh 9 0 = true; cover 10 = 11");
+                "cover 10 = 107; cover 9 = 8; weigh 0 99 = true; weigh 0 3 = true; cover 10 = 110; weigh 9 0 = true; cover 10 = 11")
+                .again().ask("weigh 0 7 = true; cover 1 = 7; weigh 0 8 = true; cover 1 = 8; driver 1; cover 1 = 0; leave 0 true; cover 1 = 8; weigh 0 9; drives 1 0 = -2; cover 1 = 9");
         Rich.tell(Run.of("36", "false: no such ROUTE, weight (0 .. 99).")).refuse("weigh -1 1 = false; weigh 10 1 = false; weigh MAX 1 = false; weigh MIN 1 = false",
                 "weigh 0 -1 = false; weigh 0 100 = false; weigh 0 MAX = false; weigh 0 MIN = false").ask("weigh 9 99 = true; weigh 0 0 = true");
     }

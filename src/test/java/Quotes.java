@@ -17,7 +17,7 @@ final class Quotes {
 
     private Quotes() { }
 
-    /** Cuts the terms into I to IV and the promises by their numbers; all blanks count as one. */
+    /** Cuts what it is ("what"), the terms (I to IV) and the promises by their numbers; all blanks count as one. */
     static void open(String file) {
         String all;
         try {
@@ -27,7 +27,9 @@ final class Quotes {
         }
         String[] parts = all.split("\n## ");
         for (String part : parts) {
-            if (part.startsWith("Terms\n")) {
+            if (part.startsWith("What it is\n")) {
+                put("what", part.substring(part.indexOf("\nAn object is used")));
+            } else if (part.startsWith("Terms\n")) {
                 String[] terms = part.substring("Terms\n".length()).split("==== I[IV]+\\.");
                 String[] names = {"I", "II", "III", "IV"};
                 for (int i = 0; i < names.length; i++) {

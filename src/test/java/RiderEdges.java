@@ -92,6 +92,13 @@ final class RiderEdges {
         holds(run, "3!=3", false);
         holds(run, "3!=4", true);
         holds(run, "not 3==3", false);
+        holds(run, "not 3==4", true);
+        holds(run, "not 3!=4", false);
+        holds(run, "not 4<3", true);
+        holds(run, "not 3<=2", true);
+        holds(run, "not 1==0", true);
+        holds(run, "not 0+1*2==1+1", false);
+        holds(run, "1==1 and not 3==4", true);
         holds(run, "not not 3==3", true);
         holds(run, "not 3==4 and 3==4", false);
         holds(run, "not 3==3 or 3==3", true);

@@ -255,6 +255,8 @@ final class RouteEdges {
         plan(star(run, 2, "taxi 4;bus 20 0;seats 1;", 1, 2), 2, 40, 3);
         plan(star(run, 2, "taxi 4;bus 19 0;seats 1;", 1, 2), 2, 38, 0, 1, 2);
         plan(star(run, 3, "taxi 0;bus 0 0;", 1, 2, 3), 3, 0, 7);
+        // stop 1 can be by taxi alone; 0 and 2 are as dear by bus
+        plan(star(run, 3, "taxi 4;bus 20 0;seats 1;", 1, 2, 2, 3), 4, 80, 7);
     }
 
     private static void leastStopByTaxi() {
@@ -379,6 +381,8 @@ final class RouteEdges {
                 .ask("child 0 0 0 0; child 4 0 0 0; routeSet 0 5 1 0 = 1; routeSet 0 5 1 1 = -1; routeSet 0 5 1 -1 = -1; routeSet 0 5 1 MAX = -1",
                         "routeSet 0 5 1 MIN = -1; routeSet 0 5 1 6 = -1; routeSet 0 5 0 0 = -1; routeSet 0 5 2 0 = -1; routeSet 0 5 3 0 = -1; routeSet 0 5 -1 0 = -1",
                         "routeSet 0 4 1 0 = -1; routeSet 0 365 1 0 = -1; routeSet 1 5 1 0 = -1; routeSet -1 5 1 0 = -1; routeSet 3 5 1 0 = -1; routeSet MAX 5 1 0 = -1");
+        line(run, "taxi 99;bus 20 0;", 0, 1).ask("shut 1 3 3; routeSet 0 2 3 0 = 3; routes 0 2 3 = 1; routeSet 0 3 3 0 = -1; routes 0 3 3 = -2; taxis 0 3 3 = -2; pay 0 3 3 = -2",
+                "routeSet 0 4 3 0 = 3; routeSet 0 3 2 0 = 3");
         star(run, 6, "taxi 99;seats 1;", 1, 2, 3, 4, 5, 6).ask("routeSet 0 0 6 5 = 32; routeSet 0 0 6 6 = -1; routeSet 0 0 6 7 = -1");
     }
 }

@@ -9,6 +9,9 @@ import java.util.List;
  * "name arguments = the answer that is due", several of them with ; between.
  */
 final class Run {
+    /** A text of which each part shows whether something of a text ahead has stayed. */
+    private static final String NEXT = "place a;place b;way a b 400 7;school s at b 480;stop t at a;"
+            + "right if (class+1)*2==8 and not far<400;";
     private static int asked = 0;
     private static int wrong = 0;
 
@@ -20,7 +23,7 @@ final class Run {
         this.sentence = sentence;
     }
 
-    /** A sentence, or a part of one, of a section of the document: "I" to "IV" of its terms, or a promise's number. */
+    /** A sentence, or a part of one, of a section of the document: "what", "I" to "IV", or a promise's number. */
     static Run of(String section, String sentence) {
         Quotes.quote(section, sentence);
         return new Run(section + ": " + sentence);
@@ -74,6 +77,16 @@ final class Run {
         return this;
     }
 
+    /** A text by itself on a new object: its fault and the byte (0 and -1: none); the next text shows nothing of it. */
+    void fault(String text, int number, int place) {
+        Run run = again().text(text).ask("read 0 = " + number + "; place = " + place + "; count 6 = 0",
+                "count 0 = " + (number == 0 ? 1 : 0));
+        if (number != 0) {
+            run.read(0, NEXT).ask("place = -1; count 10 = 2; count 20 = 1; count 30 = 1; count 40 = 1; child 0 0 3 0; child 0 0 4 0",
+                    "right 0 0 2 = 0; right 1 0 2 = -2; dist 0 1 1 0 2 = 400; dist 1 0 2 0 2 = 7; pay 0 0 2 = 35; pay 1 0 2 = -1");
+        }
+    }
+
     private void alike(String call, List<String> before, List<String> after) {
         for (int i = 0; i < Math.max(before.size(), after.size()); i++) {
             String old = i < before.size() ? before.get(i) : "nothing";
@@ -104,6 +117,14 @@ final class Run {
     /** A text without a fault, to hold from a day on. */
     Run read(int from, String text) {
         return text(text).ask("read " + from + " = 0");
+    }
+
+    /** Asks one thing again and again until so many calls in all were made. */
+    Run askUntil(int calls, String call) {
+        while (told.size() < calls) {
+            ask(call);
+        }
+        return this;
     }
 
     private int answer(String call) {

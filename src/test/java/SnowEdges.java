@@ -128,6 +128,8 @@ final class SnowEdges {
         run.again().read(0, MAP).ask("child 0 0 0 0; tap 0 3 3 0; tap 0 4 3 1439; lent 3 = 1; tap 0 4 3 700; lent 4 = 3; tap 0 5 5 0; tap 0 5 5 1439; lent 6 = 4; tap 0 4 6 0; tap 0 3 7 0; lent 8 = 4");
         run.again().read(0, MAP).ask("child 0 0 0 0; tap 0 0 3 0; tap 0 1 3 1439; lent 3 = 0; shut 0 3 3; lent 4 = 1; lent 3 = 0; annul 3; lent 5 = 0; lent 4 = 1");
         run.again().read(0, "").ask("child 0 0 0 0; tap 0 0 3 0; tap 0 0 3 1439; lent 3 = 1");
+        // the first of the two, or the other one; the first stop that the text has not, and the last one of all
+        run.again().read(0, MAP).ask("child 0 0 0 0; tap 0 4 3 0; tap 0 0 3 1439; lent 3 = 1; tap 0 5 4 0; tap 0 3 4 1439; lent 5 = 2; tap 0 3 5 0; tap 0 3 5 1439; lent 7 = 2");
     }
 
     private static void byText() {

@@ -19,6 +19,7 @@ final class TapeEdges {
         threeTexts();
         placeOfTheLatestRead();
         noPlaceWithoutAFault();
+        calls512();
     }
 
     private static void newObject() {
@@ -124,5 +125,13 @@ final class TapeEdges {
     private static void noPlaceWithoutAFault() {
         Run.of("5", "NONE without.").ask("place = -1; read 365 = -2; place = -1; read 0 = 0; place = -1").text("?")
                 .ask("place = -1; read 0 = 1; place = 0; read 0 = 0; place = -1");
+    }
+
+    /** The 512th call is answered as the first one would be. */
+    private static void calls512() {
+        Run run = Run.of("what", "An object is used for at most 512 calls after it has been made; what later calls answer is free.");
+        Rich.tell(run).askUntil(511, "count 1 = 16").ask("child 0 0 0 0 = 6");
+        Rich.tell(run.again()).askUntil(511, "told 0 1 = 5").ask("pay 0 7 16 = 243");
+        run.again().askUntil(492, "count 6 = 0").text("place a;").askUntil(511, "count 6 = 8").ask("read 364 = 0");
     }
 }

@@ -27,9 +27,8 @@ final class TokenEdges {
         run = Run.of("I", sentence);
     }
 
-    /** A text by itself on a new object: its fault and the byte. */
     private static void fault(String text, int number, int place) {
-        run.again().text(text).ask("read 0 = " + number + "; place = " + place + "; count 0 = " + (number == 0 ? 1 : 0));
+        run.fault(text, number, place);
     }
 
     private static void fine(String text) {

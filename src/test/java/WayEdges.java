@@ -103,6 +103,12 @@ final class WayEdges {
         rowOf(more, "0 2 0", 0, 1, 2);
         rowOf(more, "2 4 0", 2, 4);
         rowOf(more, "0 4 1", 0, 1, 2, 4);
+        // a way that is shut, or is bad, is not gone by, though it is as short
+        Run shut = run.again().read(0, six + "way a b 2 2 bad;way a c 1 1;way c b 1 1;").ask("shut 0 5 5");
+        rowOf(shut, "0 1 0", 0, 1);
+        rowOf(shut, "0 1 1", 0, 2, 1);
+        shut.ask("row 0 1 0 5 1 1 = 2; row 0 1 2 5 1 1 = 2; row 0 1 2 5 0 1 = 1; row 0 1 0 5 1 2 = 1; row 0 1 0 6 1 1 = 1");
+        rowOf(run.again().read(0, six + "way a b 2 2;".repeat(21) + "way a c 2 2;way c d 2 2;way d e 2 2;"), "1 4 0", 1, 0, 2, 3, 4);
         // two ways beside each other are one row
         rowOf(run.again().read(0, six + "way a b 1 1;way b a 1 1;way b c 1 1;"), "0 2 0", 0, 1, 2);
     }
